@@ -682,6 +682,11 @@ public final class PromiseTest {
         }
         make(s, 5, 5, 5, 5, 5, 4);
         due("rank(1, 5, 25, 25, 25)", s.rank(1, 5, 25, 25, 25), 5);
+        // Twice the least int wraps round to nought, and this pyramid's sides have an even a and b.
+        make(s, 0, 0, 0, 2, 0, 0, 0, 2, 0, 2, 2, 0, 1, 1, 2);
+        due("rank(2, 1, 1, 0, 0)", s.rank(2, 1, 1, 0, 0), 3);
+        due("rank(2, 1, 1, LEAST, 0)", s.rank(2, 1, 1, LEAST, 0), NONE);
+        due("rank(2, 1, LEAST, 1, 0)", s.rank(2, 1, LEAST, 1, 0), NONE);
     }
 
     private static void move() {
