@@ -13,6 +13,8 @@ public final class SwellBodies {
     private static final int MOST_SHARE = 1000;
     private static final int MOST_PART = 100000;
     private static final int MOST_WEIGHT = 100;
+    // What most() weighs is never below this.
+    private static final int LEAST_WEIGHED = -3 * REACH * MOST_WEIGHT;
 
     // The widest slice is a square of 11 times 11 whole points.
     private static final int MOST_POINTS = 121;
@@ -976,7 +978,7 @@ public final class SwellBodies {
         }
 
         int greatestOf(int a, int b, int c) {
-            int found = Integer.MIN_VALUE;
+            int found = LEAST_WEIGHED;
             for (int i = 0; i < corners.size; i++) {
                 found = Math.max(found, a * corners.x[i] + b * corners.y[i] + c * corners.z[i]);
             }

@@ -627,6 +627,8 @@ public final class PromiseTest {
         promise = "19";
         SwellBodies s = with(UNIT_CUBE);
         for (int i = 0; i < 216; i++) {
+            // An object bears 512 calls.
+            s = i % 100 == 0 ? with(UNIT_CUBE) : s;
             due("point(0, 5, " + i + ", 0)", s.point(0, 5, i, 0), i / 36);
             due("point(0, 5, " + i + ", 1)", s.point(0, 5, i, 1), i / 6 % 6);
             due("point(0, 5, " + i + ", 2)", s.point(0, 5, i, 2), i % 6);
