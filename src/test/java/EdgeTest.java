@@ -1838,6 +1838,10 @@ public final class EdgeTest {
         SwellBodies point = with(POINT);
         due("the greatest at a point", point.most(0, 100, -100, 1, true), -97);
         due("the least at a point", point.most(0, 100, -100, 1, false), -97);
+        for (boolean high : new boolean[] {false, true}) {
+            due("the least that can be, " + high, with(-5, -5, -5).most(0, 100, 100, 100, high), -1500);
+            due("the greatest that can be, " + high, with(-5, -5, -5).most(0, -100, -100, -100, high), 1500);
+        }
         SwellBodies row = with(ROW);
         due("the greatest, below 0", row.most(0, -100, 100, 100, true), -100);
         due("the least, below 0", row.most(0, -100, 100, 100, false), -100);
